@@ -351,6 +351,20 @@ public final class ShadowPagerPromisesTest {
         for (int cell : NOT_CELLS) {
             due("load(0, " + cell + ")", x.load(0, cell), BAD);
         }
+        loadFromEveryFrame();
+    }
+
+    private static void loadFromEveryFrame() {
+        ShadowPager x = mapped();
+        for (int frame = 0; frame < 8; frame++) {
+            x.setHost(3, frame, 7);
+            x.store(0, 1, 60 + frame);
+        }
+        for (int frame = 7; frame >= 0; frame--) {
+            x.setHost(3, frame, 1);
+            due("load(0, 1) of frame " + frame, x.load(0, 1), 0);
+            due("last() of frame " + frame, x.last(), 60 + frame);
+        }
     }
 
     private static void promise6Store() {
